@@ -123,16 +123,23 @@ public final class PackTest {
             }
             compare(many + " bytes above 143", tape);
         }
-        // 3 + 5 + 32 + 8 * 30 bits in KIND 0, and as many, 3 + 30 * 9 + 7, in KIND 1: the least one is due.
+        for (int many = 28; many < 33; many++) {
+            spacedBytes(many);
+        }
+    }
+
+    /** n bytes take 3 + 5 + 32 + 8 n bits in KIND 0, 3 + 9 n + 7 in KIND 1: 30 take as many in both. */
+    private static void spacedBytes(int many) throws DataFormatException {
         RowPacker x = new RowPacker();
-        byte[] tape = new byte[30];
-        for (int i = 0; i < 30; i++) {
+        byte[] tape = new byte[many];
+        for (int i = 0; i < many; i++) {
             tape[i] = (byte) (144 + 3 * i);
         }
         TestKit.load(x, tape);
         x.pack(RowPacker.BARE);
-        TestKit.due("KIND of two that are equal", x.block(0, 0), 0);
-        TestKit.due("bits of it", x.block(0, 2), 280);
+        TestKit.due("KIND of " + many + " bytes of 9 bits", x.block(0, 0), many < 30 ? 1 : 0);
+        TestKit.due("bits of " + many + " bytes of 9 bits", x.block(0, 2), many < 30 ? 10 + 9 * many : 40 + 8 * many);
+        compare(many + " bytes of 9 bits", tape);
     }
 
     /** A stretch 4,096 back is taken, one 4,097 back is not; of two of a length the nearest. */

@@ -19,6 +19,7 @@ public final class TapeTest {
         turnTakesOut();
         turnRefuses();
         sumsOfTheTape();
+        sumAtTheModulus();
         TestKit.finish();
     }
 
@@ -206,6 +207,19 @@ public final class TapeTest {
             left--;
         }
         TestKit.load(x, bits.letter(256).row());
+    }
+
+    /** 1 + 256 * 255 + 240 is 65521: a is 0 then, not 65521. */
+    private static void sumAtTheModulus() {
+        RowPacker x = new RowPacker();
+        byte[] bytes = new byte[257];
+        java.util.Arrays.fill(bytes, (byte) 255);
+        bytes[256] = (byte) 240;
+        TestKit.load(x, bytes);
+        Adler32 a = new Adler32();
+        a.update(bytes);
+        TestKit.due("SUM A where a is 0", x.sum(0) & 65535, 0);
+        TestKit.due("all of it", x.sum(0), a.getValue());
     }
 
     /** Promise 13. */

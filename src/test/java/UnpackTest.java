@@ -14,6 +14,7 @@ public final class UnpackTest {
         everyLengthAndDistance();
         codesWithFewDistances();
         moreBlocksThanAreTold();
+        manyLettersAndBlocks();
         fullOut();
         heads();
         members();
@@ -176,6 +177,27 @@ public final class UnpackTest {
         two.word("0").word("0").word("11").word("1").word("10");
         dueUnpacked("two distances have a code", two.row(), 0, TestKit.row(97, 97, 97, 97, 97));
         repeatedOverTheBorder();
+    }
+
+    /** 65,536 letters of 1 bit in one block, and as many blocks as a TAPE holds. */
+    private static void manyLettersAndBlocks() {
+        int[] lengths = fewLengths();
+        List<Integer> letters = List.of(18 + 100 * (97 - 11), 1, 18 + 100 * (138 - 11), 18 + 100 * (20 - 11), 1);
+        Bits bits = new Bits().head(1, 2).codes(257, 1, lengths).lengths(lengths, letters);
+        bits.lengths(lengths, List.of(0));
+        for (int i = 0; i < 65536; i++) {
+            bits.word("0");
+        }
+        RowPacker x = loaded(bits.word("1").row());
+        TestKit.due("letters of 1 bit", x.unpack(0), 65536);
+        TestKit.due("the last one", x.out(65535), 97);
+        bits = new Bits();
+        for (int i = 0; i < 26214; i++) {
+            bits.head(i == 26213 ? 1 : 0, 1).letter(256);
+        }
+        x = loaded(bits.row());
+        TestKit.due("26,214 blocks: unpack", x.unpack(0), 0);
+        TestKit.due("26,214 blocks", x.blocks(), 26214);
     }
 
     /** One row of lengths: 16 repeats the last letter's length among the distances. */
