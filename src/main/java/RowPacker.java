@@ -947,7 +947,6 @@ public final class RowPacker {
         private int many;
         private int[] row = new int[ROOM];
         private int[] rowAfter = new int[ROOM];
-        private final int[] rowSizes = new int[LONGEST_CODE];
         /** Which things of each row are symbols by themselves. */
         private final boolean[] alone = new boolean[LONGEST_CODE * ROOM];
 
@@ -961,9 +960,9 @@ public final class RowPacker {
             if (many < 2) {
                 return;
             }
-            rowSizes[0] = 0;
+            int size = 0;
             for (int k = 0; k < longest; k++) {
-                makeRow(k, k == 0 ? 0 : rowSizes[k - 1] / 2);
+                size = makeRow(k, size / 2);
             }
             countSymbols(longest, lengths);
         }
@@ -986,7 +985,8 @@ public final class RowPacker {
             }
         }
 
-        private void makeRow(int k, int pairs) {
+        /** Makes the next row of the symbols and of so many pairs of the one before: how many things it has. */
+        private int makeRow(int k, int pairs) {
             int size = many + pairs;
             int symbol = 0;
             int pair = 0;
@@ -1002,10 +1002,10 @@ public final class RowPacker {
                     pair++;
                 }
             }
-            rowSizes[k] = size;
             int[] done = row;
             row = rowAfter;
             rowAfter = done;
+            return size;
         }
 
         /** Of each row a first part is taken: the pairs in it are the first part of the row before. */
@@ -1149,7 +1149,6 @@ public final class RowPacker {
         private static final int PIECES = 1024;
 
         private final Row tape;
-        private final Row result;
         private final Report report;
         private final Sums sums;
         private final Finder finder;
@@ -1170,7 +1169,6 @@ public final class RowPacker {
 
         Packer(Row tape, Row result, Report report, Sums sums) {
             this.tape = tape;
-            this.result = result;
             this.report = report;
             this.sums = sums;
             finder = new Finder(tape);

@@ -6,6 +6,8 @@ import java.util.Random;
 /** Promises 7 to 9 and 14 to 16 once more: rows made by chance, good and damaged, against the slow unpacker. */
 public final class DamageTest {
     private static final int[] FAULTS = new int[15];
+    /** One object for all rows, so that nothing of an earlier row may be left in it (it does not count calls). */
+    private static final RowPacker USED_AGAIN = new RowPacker();
 
     public static void main(String[] args) {
         for (int seed = 0; seed < 12000; seed++) {
@@ -24,7 +26,7 @@ public final class DamageTest {
     }
 
     private static void compare(String what, byte[] tape, int wrapper) {
-        RowPacker x = new RowPacker();
+        RowPacker x = USED_AGAIN;
         TestKit.load(x, tape);
         PlainUnpacker due = new PlainUnpacker(tape, wrapper);
         FAULTS[due.fault]++;

@@ -5,6 +5,8 @@ import java.util.zip.Inflater;
 /** Promises 6 and 14 to 16: what pack() writes, compared with the slow packer, and read by the library. */
 public final class PackTest {
     private static final int[] KINDS = new int[3];
+    /** One object for all rows, so that nothing of an earlier row may be left in it (it does not count calls). */
+    private static final RowPacker USED_AGAIN = new RowPacker();
 
     public static void main(String[] args) throws DataFormatException {
         wrongWrapper();
@@ -30,7 +32,7 @@ public final class PackTest {
     }
 
     private static void compare(String what, byte[] tape) throws DataFormatException {
-        RowPacker x = new RowPacker();
+        RowPacker x = USED_AGAIN;
         TestKit.load(x, tape);
         PlainPacker due = new PlainPacker(tape);
         for (int wrapper = 0; wrapper < 3; wrapper++) {
