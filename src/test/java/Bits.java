@@ -23,6 +23,11 @@ final class Bits {
         return this;
     }
 
+    /** What stands from a bit on. */
+    Bits from(int bit) {
+        return new Bits().word(text.substring(bit));
+    }
+
     Bits add(Bits others) {
         text.append(others.text);
         return this;
@@ -58,6 +63,21 @@ final class Bits {
     /** A distance's symbol of KIND 1. */
     Bits distance(int symbol) {
         return word(FIXED_DISTANCES[symbol]);
+    }
+
+    /** KIND 1's symbols for so many bytes of a value: one byte, stretches of 258 behind it, and bytes again. */
+    Bits run(int value, int many) {
+        letter(value);
+        int left = many - 1;
+        while (left >= 258) {
+            letter(285).distance(0);
+            left -= 258;
+        }
+        while (left > 0) {
+            letter(value);
+            left--;
+        }
+        return this;
     }
 
     byte[] row() {

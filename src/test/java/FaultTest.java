@@ -1,8 +1,9 @@
 import java.util.ArrayList;
 import java.util.Arrays;
+import java.util.Collections;
 import java.util.List;
 
-/** Promises 7 to 9, 14 and 16: each fault, where it is, and which of two comes first. */
+/** Promises 7 to 9: faults 1 to 10, where each is, and which of two comes first (WrapperTest has 11 to 14). */
 public final class FaultTest {
     private static final int[] LENGTHS = new int[19];
 
@@ -15,68 +16,68 @@ public final class FaultTest {
         LENGTHS[18] = 2;
     }
 
-    public static void main(String[] args) {
-        earlyEnd();
-        kindThree();
-        secondNumber();
-        tooManySymbols();
-        codesThatAreNotFull();
-        nothingBefore();
-        tooManyLengths();
-        symbolsThatNeverCome();
-        tooFar();
-        tooManyBytes();
-        behindTheEnd();
-        shortWrapper();
-        longHead();
-        longTail();
-        severalMembers();
-        stretchesOfABlockWithAFault();
-        goodBehindAFault();
+    /** The 158 letters between 97 and 256, told by two symbols 18. */
+    private static final Integer REST_0 = 18 + 100 * (138 - 11), REST_1 = 18 + 100 * (20 - 11);
+
+    public static void main(String[] args) throws Exception {
+        Edges.run(FaultTest.class);
         TestKit.finish();
     }
 
-    private static RowPacker dueFault(String what, byte[] tape, int wrapper, int fault, int place, int blocks) {
-        RowPacker x = new RowPacker();
-        TestKit.load(x, tape);
-        TestKit.due(what + ": unpack", x.unpack(wrapper), RowPacker.NONE);
-        TestKit.due(what + ": fault", x.fault(), fault);
-        TestKit.due(what + ": place", x.place(), place);
-        TestKit.due(what + ": blocks", x.blocks(), blocks);
-        TestKit.due(what + ": size", x.size(), 0);
-        TestKit.dueThrow(what + ": out(0)", IndexOutOfBoundsException.class, () -> x.out(0));
-        TestKit.dueThrow(what + ": block", IndexOutOfBoundsException.class, () -> x.block(blocks, 0));
-        return x;
-    }
-
     private static void dueFault(String what, Bits bits, int fault, int place, int blocks) {
-        dueFault(what, bits.row(), 0, fault, place, blocks);
+        TestKit.dueFault(what, bits.row(), RowPacker.BARE, fault, place, blocks);
     }
 
-    /** A block of KIND 2 up to the end of its lengths; the letters told are 97 and 256 and what comes behind. */
+    /** The same fault behind a block of 19 bits, too: then its place is 19 more. */
+    private static void dueFaultAnywhere(String what, Bits bits, int fault, int place) {
+        dueFault(what, bits, fault, place, 0);
+        Bits behind = new Bits().head(0, 1).letter(144).letter(256).add(bits);
+        dueFault(what + ", behind a block", behind, fault, place + 19, 1);
+    }
+
+    /** A block of KIND 2 up to the end of its lengths; letters up to 96 have none, what is told goes on from 97. */
     private static Bits made(int letters, int distances, Integer... told) {
         List<Integer> all = new ArrayList<>(List.of(18 + 100 * (97 - 11)));
         all.addAll(Arrays.asList(told));
         return new Bits().head(1, 2).codes(letters, distances, LENGTHS).lengths(LENGTHS, all);
     }
 
-    private static final Integer REST_0 = 18 + 100 * (138 - 11), REST_1 = 18 + 100 * (20 - 11);
+    /** A row of whole bytes: blocks of 19 bits stand before what does not end a byte. */
+    private static Bits endingAByte(Bits bits) {
+        Bits before = new Bits();
+        while ((before.length() + bits.length()) % 8 != 0) {
+            before.head(0, 1).letter(144).letter(256);
+        }
+        return before.add(bits);
+    }
+
+    /** A fault that the last bit of the TAPE tells: nothing behind it is read before it is looked at. */
+    private static void dueAtTheEnd(String what, Bits bits, int fault, int place) {
+        Bits whole = endingAByte(bits);
+        int before = whole.length() - bits.length();
+        dueFault(what + ", at the end of the TAPE", whole, fault, before + place, before / 19);
+    }
+
+    /** A TAPE that ends with these bits: its last byte is full, and something is missing. */
+    private static void dueEarlyEnd(String what, Bits bits) {
+        Bits whole = endingAByte(bits);
+        dueFault(what, whole, 1, whole.length(), (whole.length() - bits.length()) / 19);
+    }
 
     private static void cutEverywhere(String what, byte[] whole, int wrapper) {
         for (int many = 0; many < whole.length; many++) {
-            RowPacker x = new RowPacker();
-            TestKit.load(x, Arrays.copyOf(whole, many));
+            RowPacker x = TestKit.loaded(Arrays.copyOf(whole, many));
             TestKit.due(what + " cut: unpack", x.unpack(wrapper), RowPacker.NONE);
             TestKit.due(what + " cut: fault", x.fault(), 1);
             TestKit.due(what + " cut: place", x.place(), 8 * many);
         }
     }
 
-    /** 1: wherever a good row is cut, at the begin of each kind of thing that is read. */
-    private static void earlyEnd() {
-        dueFault("nothing", new Bits(), 1, 0, 0);
-        dueFault("nothing, SHORT", new byte[0], 1, 1, 0, 0);
-        dueFault("nothing, LONG", new byte[0], 2, 1, 0, 0);
+    @Says("1 the TAPE ends too early: at its end.")
+    static void earlyEnd() {
+        for (int wrapper = 0; wrapper < 3; wrapper++) {
+            TestKit.dueFault("nothing", new byte[0], wrapper, 1, 0, 0);
+        }
         cutEverywhere("PLAIN", new Bits().plain(1, 1, 2, 3).row(), 0);
         Bits fixed = new Bits().head(1, 1).letter(200).letter(284).number(3, 5).distance(0).letter(9);
         cutEverywhere("KIND 1", fixed.letter(257).distance(17).number(5, 7).row(), 0);
@@ -85,327 +86,442 @@ public final class FaultTest {
         cutEverywhere("SHORT", TestKit.row(120, 156, 3, 0, 0, 0, 0, 1), 1);
         byte[] head = TestKit.row(31, 139, 8, 28, 0, 0, 0, 0, 0, 255, 2, 0, 7, 7, 97, 0, 98, 0, 3, 0);
         cutEverywhere("LONG", TestKit.join(head, new byte[8]), 2);
-        dueFault("second block", new Bits().plain(0, 5), 1, 48, 1);
-        dueFault("fewer bits than the KIND", new Bits().head(0, 1).letter(256).head(0, 1).letter(256).head(0, 1)
-            .letter(200).letter(5).letter(256), 1, 48, 3);
-        Bits none = made(258, 1, 1, REST_0, REST_1, 2, 2, 0).word("0");
-        while (none.length() % 8 != 6) {
-            none.word("0");
+    }
+
+    /** The last bit but one of each thing, and no bit of it. */
+    @Says("1 the TAPE ends too early")
+    static void earlyEndInEachThing() {
+        dueFault("no bit of a block", new Bits().plain(0, 5), 1, 48, 1);
+        dueEarlyEnd("no bit of a KIND", new Bits().number(1, 1));
+        dueEarlyEnd("one bit of a KIND", new Bits().number(1, 1).number(1, 1));
+        dueEarlyEnd("no number of a PLAIN block", new Bits().head(1, 0).toByte());
+        dueEarlyEnd("half a number", new Bits().head(1, 0).toByte().bytes(1));
+        dueEarlyEnd("no second number", new Bits().head(1, 0).toByte().bytes(1, 0));
+        dueEarlyEnd("half the second number", new Bits().head(1, 0).toByte().bytes(1, 0, 0));
+        dueEarlyEnd("no byte", new Bits().head(1, 0).toByte().number(1, 16).number(65534, 16));
+        Bits made = new Bits().head(1, 2);
+        dueEarlyEnd("no h", made);
+        dueEarlyEnd("h but a bit", new Bits().add(made).number(0, 4));
+        made.number(0, 5);
+        dueEarlyEnd("no d", made);
+        dueEarlyEnd("d but a bit", new Bits().add(made).number(0, 4));
+        made.number(0, 5);
+        dueEarlyEnd("no c", made);
+        dueEarlyEnd("c but a bit", new Bits().add(made).number(0, 3));
+        dueEarlyEnd("no number of LENGTHS", new Bits().add(made).number(0, 4));
+        dueEarlyEnd("the last number of LENGTHS but a bit", new Bits().add(made).number(0, 4).number(2, 3)
+            .number(2, 3).number(2, 3).number(2, 2));
+        Bits codes = new Bits().head(1, 2).codes(257, 1, LENGTHS);
+        dueEarlyEnd("no length", codes);
+        dueEarlyEnd("a length's symbol but a bit", new Bits().add(codes).word("10"));
+        for (int symbol = 16; symbol <= 18; symbol++) {
+            Bits cut = new Bits().add(codes).lengths(LENGTHS, List.of(1)).word(Bits.wordsOf(LENGTHS)[symbol]);
+            dueEarlyEnd("no number behind " + symbol, cut);
+            cut.number(0, symbol == 16 ? 1 : symbol == 17 ? 2 : 6);
+            dueEarlyEnd("a number behind " + symbol + " but a bit", cut);
         }
-        dueFault("no bit for a distance without codes", none.word("11"), 1, none.length(), 0);
+        Bits symbols = new Bits().head(1, 1).letter(7);
+        dueEarlyEnd("no letter", symbols);
+        dueEarlyEnd("a letter but a bit", new Bits().add(symbols).word("11001000"));
+        dueEarlyEnd("256 but a bit", new Bits().add(symbols).word("000000"));
+        dueEarlyEnd("no number of a length", new Bits().add(symbols).letter(284));
+        dueEarlyEnd("a number of a length but a bit", new Bits().add(symbols).letter(284).number(0, 4));
+        dueEarlyEnd("no distance", new Bits().add(symbols).letter(257));
+        dueEarlyEnd("a distance but a bit", new Bits().add(symbols).letter(257).word("0000"));
+        dueEarlyEnd("no number of a distance", new Bits().add(symbols).letter(257).distance(29));
+        dueEarlyEnd("a number of a distance but a bit", new Bits().add(symbols).letter(257).distance(29).number(0, 12));
+        dueEarlyEnd("no end of a block", new Bits().add(symbols).letter(257).distance(0));
     }
 
-    /** 2. */
-    private static void kindThree() {
-        dueFault("KIND 3", new Bits().head(1, 3), 2, 1, 0);
-        dueFault("KIND 3, not the last", new Bits().head(0, 3), 2, 1, 0);
-        dueFault("KIND 3 behind a block", new Bits().head(0, 1).letter(256).head(1, 3), 2, 11, 1);
-        dueFault("KIND 3 wrapped", TestKit.row(120, 156, 7), 1, 2, 17, 0);
+    @Says("2 KIND 3: at the first bit of the KIND.")
+    static void kindThree() {
+        dueFaultAnywhere("KIND 3", new Bits().head(1, 3), 2, 1);
+        dueFaultAnywhere("KIND 3, not the last", new Bits().head(0, 3), 2, 1);
+        dueAtTheEnd("KIND 3", new Bits().head(0, 3), 2, 1);
+        TestKit.dueFault("KIND 3, SHORT", TestKit.row(120, 156, 7), RowPacker.SHORT, 2, 17, 0);
+        TestKit.dueFault("KIND 3, LONG", TestKit.row(31, 139, 8, 0, 0, 0, 0, 0, 0, 0, 6), RowPacker.LONG, 2, 81, 0);
     }
 
-    /** 3. */
-    private static void secondNumber() {
-        dueFault("another number", new Bits().head(1, 0).toByte().number(1, 16).number(65535, 16), 3, 24, 0);
-        dueFault("the same number", new Bits().head(1, 0).toByte().number(0, 16).number(0, 16), 3, 24, 0);
-        dueFault("another number, and no bytes", new Bits().head(1, 0).toByte().number(9, 16).number(9, 16), 3, 24, 0);
+    /** One bit being another one, each in turns; and the bytes may be missing. */
+    @Says("3 the second number of a PLAIN block is another one: at its first bit.")
+    static void secondNumber() {
+        for (int n : new int[] {0, 1, 255, 256, 65535}) {
+            for (int bit = 0; bit < 16; bit++) {
+                Bits bits = new Bits().head(1, 0).toByte().number(n, 16).number(65535 - n ^ 1 << bit, 16);
+                dueFault("n is " + n + ", bit " + bit, bits, 3, 24, 0);
+            }
+            dueFault("n twice", new Bits().head(1, 0).toByte().number(n, 16).number(n, 16), 3, 24, 0);
+        }
         Bits behind = new Bits().head(0, 1).letter(256).head(1, 0).toByte().number(0, 16).number(65534, 16);
         dueFault("behind a block", behind, 3, 32, 1);
     }
 
-    /** 4: each number is looked at before the next one is read. */
-    private static void tooManySymbols() {
-        dueFault("287 letters", new Bits().head(1, 2).number(30, 5), 4, 3, 0);
-        dueFault("288 letters, 32 distances", new Bits().head(1, 2).number(31, 5).number(31, 5), 4, 3, 0);
-        dueFault("31 distances", new Bits().head(1, 2).number(29, 5).number(30, 5), 4, 8, 0);
-        dueFault("32 distances", new Bits().head(1, 2).number(0, 5).number(31, 5).number(15, 4), 4, 8, 0);
-        Bits behind = new Bits().head(0, 1).letter(256).head(1, 2).number(30, 5);
-        dueFault("behind a block", behind, 4, 13, 1);
+    /** Each number is looked at before the next one is read. */
+    @Says("4 there would be more than 286 letters, or more than 30 distances: at the first bit of h, or of d.")
+    static void tooManySymbols() {
+        for (int h = 30; h <= 31; h++) {
+            dueFaultAnywhere("h is " + h, new Bits().head(1, 2).number(h, 5).number(0, 9), 4, 3);
+            dueFaultAnywhere("h is " + h + ", d 31", new Bits().head(1, 2).number(h, 5).number(31, 5), 4, 3);
+            dueAtTheEnd("h is " + h, new Bits().head(1, 2).number(h, 5), 4, 3);
+            dueFaultAnywhere("d is " + h, new Bits().head(1, 2).number(0, 5).number(h, 5).number(15, 4), 4, 8);
+            dueAtTheEnd("d is " + h, new Bits().head(1, 2).number(29, 5).number(h, 5), 4, 8);
+        }
+        Bits most = new Bits().head(1, 2).number(29, 5).number(29, 5).number(0, 4).number(0, 12);
+        dueFault("286 letters, 30 distances", most, 5, 29, 0);
     }
 
-    /** 5. */
-    private static void codesThatAreNotFull() {
-        Bits empty = new Bits().head(1, 2).number(0, 5).number(0, 5).number(0, 4).number(0, 12);
-        dueFault("no lengths", empty, 5, 29, 0);
-        Bits single = new Bits().head(1, 2).number(0, 5).number(0, 5).number(0, 4).number(1, 12);
-        dueFault("one length of 1 bit", single, 5, 29, 0);
-        Bits three = new Bits().head(1, 2).number(0, 5).number(0, 5).number(1, 4);
-        three.number(1, 3).number(1, 3).number(1, 3).number(0, 6);
-        dueFault("three lengths of 1 bit", three, 5, 32, 0);
-        Bits rest = new Bits().head(1, 2).number(0, 5).number(0, 5).number(0, 4);
-        rest.number(1, 3).number(2, 3).number(3, 3).number(0, 3);
-        dueFault("an eighth is left", rest, 5, 29, 0);
+    private static Bits ofLengths(int... lengths) {
+        Bits bits = new Bits().head(1, 2).number(0, 5).number(0, 5).number(lengths.length - 4, 4);
+        for (int length : lengths) {
+            bits.number(length, 3);
+        }
+        return bits;
+    }
 
-        Bits letters = made(257, 1, 1, REST_0, REST_1, 2, 0);
-        dueFault("letters of 1 and 2 bits", letters, 5, letters.length(), 0);
-        Bits many = made(258, 1, 1, REST_0, REST_1, 1, 1, 0);
-        dueFault("three letters of 1 bit", many, 5, many.length(), 0);
-        Bits alone = made(257, 1, 0, REST_0, REST_1, 1, 0);
-        dueFault("256 alone", alone, 5, alone.length(), 0);
-        Bits without = made(257, 1, 1, 1, REST_0, 18 + 100 * (19 - 11), 0, 0);
-        dueFault("256 without a code", without, 5, without.length(), 0);
-        Bits far = made(257, 1, 1, REST_0, REST_1, 1, 2);
-        dueFault("one distance of 2 bits", far, 5, far.length(), 0);
-        Bits some = made(257, 2, 1, REST_0, REST_1, 1, 1, 2);
-        dueFault("distances of 1 and 2 bits", some, 5, some.length(), 0);
-        Bits full = made(257, 3, 1, REST_0, REST_1, 1, 1, 1, 1);
-        dueFault("three distances of 1 bit", full, 5, full.length(), 0);
+    /** FULL is neither less nor more than 1, and looked at before a symbol of the code is read. */
+    @Says("The codes of LENGTHS and of letters must be FULL")
+    static void codeOfLengths() {
+        dueFaultAnywhere("no length", ofLengths(0, 0, 0, 0), 5, 29);
+        dueFaultAnywhere("one of 1 bit", ofLengths(1, 0, 0, 0), 5, 29);
+        dueFaultAnywhere("three of 1 bit", ofLengths(1, 1, 1, 0), 5, 29);
+        dueFaultAnywhere("an eighth is left", ofLengths(1, 2, 3, 0), 5, 29);
+        dueFaultAnywhere("an eighth too much", ofLengths(1, 2, 3, 2), 5, 29);
+        dueFaultAnywhere("all 19 of 7 bits", ofLengths(7, 7, 7, 7, 7, 7, 7, 7, 7, 7, 7, 7, 7, 7, 7, 7, 7, 7, 7), 5, 74);
+        dueFaultAnywhere("all 19 of 1 bit", ofLengths(1, 1, 1, 1, 1, 1, 1, 1, 1, 1, 1, 1, 1, 1, 1, 1, 1, 1, 1), 5, 74);
+        dueFaultAnywhere("a 128th is left", ofLengths(1, 2, 3, 4, 5, 6, 7, 0), 5, 41);
+        dueFaultAnywhere("a 128th too much", ofLengths(1, 2, 3, 4, 5, 6, 7, 7, 7), 5, 44);
+        dueAtTheEnd("a 128th is left", ofLengths(1, 2, 3, 4, 5, 6, 7), 5, 38);
+    }
+
+    @Says("A code is FULL if the sum of 2^-length over its symbols is 1.")
+    static void codeOfLetters() {
+        dueMade("letters of 1 and 2 bits", made(257, 1, 1, REST_0, REST_1, 2, 0));
+        dueMade("three letters of 1 bit", made(258, 1, 1, REST_0, REST_1, 1, 1, 0));
+        dueMade("256 alone, of 1 bit", made(257, 1, 0, REST_0, REST_1, 1, 0));
+        dueMade("letters of 1, 1 and 2 bits", made(258, 1, 1, REST_0, REST_1, 1, 2, 0));
+        dueMade("letters of 15 bits alone", ofLetters(fifteens(2, 15)));
+        int[] left = fifteens(14, 15);
+        dueMade("a 32,768th is left", ofLetters(left));
+        left[14] = 15;
+        left[15] = 15;
+        dueMade("a 32,768th too much", ofLetters(left));
+    }
+
+    /** Letters 0 and on of 1, 2, 3, .. bits, so many of them, and 256 of so many bits. */
+    private static int[] fifteens(int many, int end) {
+        int[] lengths = new int[257];
+        for (int i = 0; i < many; i++) {
+            lengths[i] = many == 2 ? 15 : i + 1;
+        }
+        lengths[256] = end;
+        return lengths;
+    }
+
+    /** A block whose 257 letters have these lengths and its distance none. */
+    private static Bits ofLetters(int[] lengths) {
+        int[] each = new int[19];
+        Arrays.fill(each, 0, 16, 4);
+        List<Integer> told = new ArrayList<>();
+        Arrays.stream(lengths).forEach(told::add);
+        told.add(0);
+        return new Bits().head(1, 2).codes(257, 1, each).lengths(each, told);
+    }
+
+    /** Fault 5 at the bit behind all lengths, also if the TAPE ends there. */
+    private static void dueMade(String what, Bits bits) {
+        dueFaultAnywhere(what, new Bits().add(bits).word("1"), 5, bits.length());
+        dueAtTheEnd(what, bits, 5, bits.length());
+    }
+
+    @Says("256 must have a code")
+    static void endWithoutACode() {
+        dueMade("256 without a code", made(257, 1, 1, 1, REST_0, 18 + 100 * (20 - 11), 0));
+        dueMade("257 instead of 256", made(258, 1, 1, REST_0, REST_1, 0, 1, 0));
+    }
+
+    @Says("that of distances must be FULL, or no distance has a code, or just one, of 1 bit.")
+    static void codeOfDistances() {
+        dueMade("one distance of 2 bits", made(257, 1, 1, REST_0, REST_1, 1, 2));
+        dueMade("two distances of 2 bits", made(257, 2, 1, REST_0, REST_1, 1, 2, 2));
+        dueMade("distances of 1 and 2 bits", made(257, 2, 1, REST_0, REST_1, 1, 1, 2));
+        dueMade("three distances of 1 bit", made(257, 3, 1, REST_0, REST_1, 1, 1, 1, 1));
+        dueMade("distances of 1, 1 and 2 bits", made(257, 3, 1, REST_0, REST_1, 1, 1, 1, 2));
+    }
+
+    /** Letters, 256 and distances are all looked at behind all lengths, so that all three faults are one. */
+    @Says("5 a code is not as it must be: at the bit behind its lengths (letters' code, 256, distances in this order, "
+        + "behind all lengths).")
+    static void behindAllLengths() {
+        Bits wrong = made(258, 4, 1, 18 + 100 * (138 - 11), 18 + 100 * (20 - 11), 2, 0, 2, 2, 0, 0);
+        dueFaultAnywhere("letters, and distances", new Bits().add(wrong).number(0, 9), 5, wrong.length());
+        Bits early = made(257, 30, 2, REST_0, REST_1, 2);
+        dueEarlyEnd("letters, but distances are still to come", early);
+        dueFaultAnywhere("letters, but a fault among distances", new Bits().add(early)
+            .lengths(LENGTHS, List.of(18 + 100 * 127)), 7, early.length());
     }
 
     private static Bits begun() {
         return new Bits().head(1, 2).codes(257, 1, LENGTHS);
     }
 
-    /** 6: before its number is read. */
-    private static void nothingBefore() {
+    /** Before its number is read. */
+    @Says("6 a symbol 16 with no length before it: at its first bit.")
+    static void nothingBefore() {
         String word = Bits.wordsOf(LENGTHS)[16];
         int place = begun().length();
-        dueFault("16 at first", begun().word(word).number(0, 2), 6, place, 0);
-        Bits atTheEnd = new Bits().head(0, 1).letter(144).letter(256).add(begun()).word(word);
-        dueFault("16 at first, behind a block", atTheEnd, 6, place + 19, 1);
-        Bits cut = new Bits();
-        while ((cut.length() + place + word.length()) % 8 != 0) {
-            cut.head(0, 1).letter(144).letter(256);
+        for (int number = 0; number < 4; number++) {
+            dueFaultAnywhere("16 at first, and " + number, begun().word(word).number(number, 2), 6, place);
         }
-        int before = cut.length();
-        dueFault("16 at first, its number missing", cut.add(begun()).word(word), 6, place + before, before / 19);
+        dueAtTheEnd("16 at first", begun().word(word), 6, place);
+        dueAtTheEnd("16 at first, and a bit", begun().word(word).number(0, 1), 6, place);
         Bits zeros = begun().lengths(LENGTHS, List.of(0, 16, 18 + 100 * (138 - 11), 18 + 100 * (115 - 11), 0));
         dueFault("16 behind a 0 is none", zeros, 5, zeros.length(), 0);
     }
 
-    /** 7: behind 6, its number read. */
-    private static void tooManyLengths() {
+    /** So many lengths are told that up to 138 are left; then one more than are left, and as many as are left. */
+    @Says("7 more lengths than there are symbols: at the first bit of 16, 17 or 18 (behind 6; its number is read "
+        + "before).")
+    static void tooManyLengths() {
         for (int symbol = 16; symbol <= 18; symbol++) {
-            int most = symbol == 16 ? 3 : symbol == 17 ? 7 : 127;
             int least = symbol == 18 ? 11 : 3;
-            Bits bits = made(257, 1, 1, 18 + 100 * (138 - 11));
-            // 236 of 258 lengths are told: up to least - 1 are left over.
-            int left = 258 - 236;
-            while (left >= least) {
-                bits.lengths(LENGTHS, List.of(0));
-                left--;
+            int most = symbol == 16 ? 6 : symbol == 17 ? 10 : 138;
+            for (int times : new int[] {least, least + 1, most - 1, most}) {
+                Bits bits = allBut(times - 1);
+                int place = bits.length();
+                bits.lengths(LENGTHS, List.of(symbol + 100 * (times - least)));
+                dueFaultAnywhere(times + " by " + symbol + ", one too many", bits, 7, place);
+                dueAtTheEnd(times + " by " + symbol + ", one too many", bits, 7, place);
+                Bits good = allBut(times).lengths(LENGTHS, List.of(symbol + 100 * (times - least)));
+                // All are 0: the code of letters is not full.
+                dueFault(times + " by " + symbol + ", as many as are left", good, 5, good.length(), 0);
             }
+            Bits cut = allBut(1).word(Bits.wordsOf(LENGTHS)[symbol]).number(0, symbol == 16 ? 1 : 2);
+            dueEarlyEnd("too many by " + symbol + ", its number missing", cut);
+        }
+    }
+
+    /** 258 lengths but so many, all 0. */
+    private static Bits allBut(int left) {
+        List<Integer> told = new ArrayList<>();
+        told.addAll(Collections.nCopies((258 - left) % 11, 0));
+        told.addAll(Collections.nCopies((258 - left) / 11, 18));
+        return begun().lengths(LENGTHS, told);
+    }
+
+    @Says("(286, 287 and distances 30, 31 never may come.)")
+    static void neverMayCome() {
+        dueFaultAnywhere("letter 286", new Bits().head(1, 1).letter(286), 8, 3);
+        dueFaultAnywhere("letter 287", new Bits().head(1, 1).letter(5).letter(287), 8, 11);
+        dueAtTheEnd("letter 287", new Bits().head(1, 1).letter(5).letter(287), 8, 11);
+        for (int j = 30; j <= 31; j++) {
+            Bits near = new Bits().head(1, 1).letter(5).letter(257).distance(j);
+            dueFaultAnywhere("distance " + j, near, 8, 18);
+            dueAtTheEnd("distance " + j, near, 8, 18);
+            Bits far = new Bits().head(1, 1).letter(5).letter(284).number(9, 5).distance(j);
+            dueFaultAnywhere("distance " + j + " behind a number", far, 8, 24);
+        }
+    }
+
+    /** A code of one distance has the bit 0 alone; without any both bits are wrong. */
+    @Says("8 a symbol that never may come, or a bit that is in no code of distances: at the first bit of that symbol")
+    static void bitInNoCode() {
+        for (int distances : new int[] {1, 2}) {
+            Bits bits = distances == 1 ? made(258, 1, 1, REST_0, REST_1, 2, 2, 1)
+                : made(258, 2, 1, REST_0, REST_1, 2, 2, 0, 1);
+            bits.word("0").word("0").word("11");
             int place = bits.length();
-            dueFault("one too many of " + symbol, bits.lengths(LENGTHS, List.of(symbol)), 7, place, 0);
-            Bits others = made(257, 1, 1, 18 + 100 * (138 - 11), 18 + 100 * (20 - 11));
-            place = others.length();
-            dueFault("far too many of " + symbol, others.lengths(LENGTHS, List.of(symbol + 100 * most)), 7, place, 0);
+            dueFaultAnywhere("the bit 1", new Bits().add(bits).word("1"), 8, place);
+            dueAtTheEnd("the bit 1", new Bits().add(bits).word("1"), 8, place);
+            RowPacker x = TestKit.loaded(new Bits().add(bits).word("0").word("10").row());
+            TestKit.due("the bit 0", x.unpack(RowPacker.BARE), 5);
         }
-        String word = Bits.wordsOf(LENGTHS)[18];
-        Bits cut = made(257, 1, 1, 18 + 100 * (138 - 11), 18 + 100 * (20 - 11)).word(word).number(0, 1);
-        byte[] row = cut.row();
-        TestKit.due("fewer than 7 bits are left", 8 * row.length - cut.length() < 6 ? 1 : 0, 1);
-        dueFault("its number missing", cut, 1, 8 * row.length, 0);
-        Bits last = made(257, 1, 1, REST_0, REST_1, 1, 0).word("1");
-        RowPacker x = new RowPacker();
-        TestKit.load(x, last.row());
-        TestKit.due("as many as there are", x.unpack(0), 0);
     }
 
-    /** 8. */
-    private static void symbolsThatNeverCome() {
-        dueFault("letter 286", new Bits().head(1, 1).letter(286), 8, 3, 0);
-        dueFault("letter 287", new Bits().head(1, 1).letter(5).letter(287), 8, 11, 0);
-        dueFault("distance 30", new Bits().head(1, 1).letter(5).letter(257).distance(30), 8, 18, 0);
-        dueFault("distance 31", new Bits().head(1, 1).letter(5).letter(284).number(9, 5).distance(31), 8, 24, 0);
-        Bits none = made(258, 1, 1, REST_0, REST_1, 2, 2, 0).word("0").word("11");
-        int place = none.length();
-        dueFault("no code of distances, bit 0", none.word("0"), 8, place, 0);
-        none = made(258, 1, 1, REST_0, REST_1, 2, 2, 0).word("0").word("11").word("1");
-        dueFault("no code of distances, bit 1", none, 8, place, 0);
-        Bits one = made(258, 1, 1, REST_0, REST_1, 2, 2, 1).word("0").word("11");
-        place = one.length();
-        dueFault("the bit that is in no code", one.word("1"), 8, place, 0);
-        // The last bit of the TAPE tells it: it is no early end.
-        one = made(258, 1, 1, REST_0, REST_1, 2, 2, 1).word("0");
-        while (one.length() % 8 != 5) {
-            one.word("0");
+    @Says("(where no distance has a code, one bit is read)")
+    static void noCodeOfDistances() {
+        for (int distances : new int[] {1, 2}) {
+            Bits bits = distances == 1 ? made(258, 1, 1, REST_0, REST_1, 2, 2, 0)
+                : made(258, 2, 1, REST_0, REST_1, 2, 2, 0, 0);
+            bits.word("0").word("11");
+            for (String bit : new String[] {"0", "1"}) {
+                dueFaultAnywhere("the bit " + bit, new Bits().add(bits).word(bit), 8, bits.length());
+                dueAtTheEnd("the bit " + bit, new Bits().add(bits).word(bit), 8, bits.length());
+            }
+            dueEarlyEnd("no bit", bits);
         }
-        dueFault("that bit being the last", one.word("11").word("1"), 8, one.length() - 1, 0);
     }
 
-    /** 9. */
-    private static void tooFar() {
+    /** As many as were unpacked is good, one more is not. */
+    @Says("9 a distance that goes beyond what was unpacked (of this member): at the first bit of its symbol, its number "
+        + "read.")
+    static void tooFar() {
         dueFault("before the first byte", new Bits().head(1, 1).letter(257).distance(0), 9, 10, 0);
-        dueFault("two of one byte", new Bits().head(1, 1).letter(5).letter(257).distance(1), 9, 18, 0);
-        Bits wide = new Bits().head(1, 1).letter(5).letter(265).number(1, 1).distance(4).number(1, 1);
-        dueFault("six of one byte", wide, 9, 19, 0);
+        dueAtTheEndOfAll("two of one byte", new Bits().head(1, 1).letter(5).letter(257).distance(1), 18);
+        for (int many : new int[] {1, 2, 4, 5, 6, 7, 8, 12, 13, 256, 257}) {
+            Bits bytes = new Bits().head(1, 1);
+            for (int i = 0; i < many; i++) {
+                bytes.letter(i % 100);
+            }
+            int place = bytes.letter(258).length();
+            dueFault(many + 1 + " of " + many, stretch(bytes, many + 1), 9, place, 0);
+            RowPacker x = TestKit.loaded(stretch(bytes, many).letter(256).row());
+            TestKit.due(many + " of " + many, x.unpack(RowPacker.BARE), many + 4);
+        }
         Bits blocks = new Bits().plain(0, 1, 2, 3).head(1, 1).letter(257).distance(3);
-        dueFault("four of three bytes", blocks, 9, 64 + 10, 1);
-        Bits missing = new Bits().head(1, 1).letter(257).distance(29).number(0, 6);
-        dueFault("too far, its number missing", missing, 1, 24, 0);
+        dueFault("four of three bytes of a PLAIN block", blocks, 9, 64 + 10, 1);
+        dueEarlyEnd("its number missing", new Bits().head(1, 1).letter(257).distance(29).number(8191, 12));
     }
 
-    /** So many bytes 7, of stretches of 258 and of bytes, with no end of the block. */
+    private static void dueAtTheEndOfAll(String what, Bits bits, int place) {
+        dueFault(what, bits, 9, place, 0);
+        Bits byteMore = new Bits().head(0, 1).letter(256).add(bits);
+        dueFault(what + ", behind an empty block", byteMore, 9, place + 10, 1);
+    }
+
+    /** A distance of KIND 1 behind what stands there. */
+    private static Bits stretch(Bits before, int distance) {
+        int j = 29;
+        while (PlainPacker.distanceFrom(j) > distance) {
+            j--;
+        }
+        return new Bits().add(before).distance(j)
+            .number(distance - PlainPacker.distanceFrom(j), PlainPacker.distanceBits(j));
+    }
+
     private static Bits sevens(int last, int many) {
-        Bits bits = new Bits().head(last, 1).letter(7);
-        int left = many - 1;
-        while (left >= 258) {
-            bits.letter(285).distance(0);
-            left -= 258;
-        }
-        while (left > 0) {
-            bits.letter(7);
-            left--;
-        }
-        return bits;
+        return new Bits().head(last, 1).run(7, many);
     }
 
-    /** 10. */
-    private static void tooManyBytes() {
-        Bits bits = sevens(1, 65536);
-        int place = bits.length();
-        dueFault("byte 65,537", bits.letter(7), 10, place, 0);
-        bits = sevens(1, 65534);
-        place = bits.length();
-        dueFault("a stretch over 65,536", bits.letter(257).distance(0), 10, place, 0);
-        bits = sevens(1, 65536);
-        place = bits.length() + 7;
-        dueFault("8 is before 10", bits.letter(257).distance(30), 8, place, 0);
-        bits = sevens(1, 65534);
-        place = bits.length();
-        bits.letter(257).distance(29).number(8191, 13);
-        dueFault("32,768 is not too far", bits, 10, place, 0);
-        bits = sevens(0, 65530).letter(256).head(1, 0).toByte();
-        place = bits.length();
-        dueFault("a PLAIN one, and no bytes", bits.number(7, 16).number(65528, 16), 10, place, 1);
-        bits = sevens(0, 65530).letter(256).head(1, 0).toByte();
-        place = bits.length();
-        dueFault("3 is before 10", bits.number(7, 16).number(7, 16), 3, place + 16, 1);
-        bits = sevens(0, 65530).letter(256).head(1, 0).toByte();
-        bits.number(6, 16).number(65529, 16);
-        dueFault("a PLAIN one that has room", bits, 1, bits.length(), 1);
-        bits = sevens(0, 65530).letter(256).plain(1, 1, 2, 3, 4, 5, 6);
-        RowPacker x = new RowPacker();
-        TestKit.load(x, bits.row());
-        TestKit.due("a PLAIN one up to 65,536", x.unpack(0), 65536);
-        bits = sevens(0, 65536).letter(256).plain(1);
-        TestKit.load(x, bits.row());
-        TestKit.due("a PLAIN one without bytes behind 65,536", x.unpack(0), 65536);
-    }
-
-    /** 11. */
-    private static void behindTheEnd() {
-        dueFault("a byte behind", TestKit.row(3, 0, 0), 0, 11, 16, 1);
-        dueFault("two bytes behind", TestKit.row(3, 0, 7, 7), 0, 11, 16, 1);
-        dueFault("a byte behind a PLAIN one", new Bits().plain(1, 1).bytes(3), 11, 48, 1);
-        dueFault("a byte behind a row that ends a byte", new Bits().head(1, 1).letter(5).letter(6).letter(144)
-            .letter(145).letter(256).toByte().bytes(0), 11, 48, 1);
-        dueFault("a byte behind a SHORT one", TestKit.row(120, 156, 3, 0, 0, 0, 0, 1, 0), 1, 11, 64, 1);
-    }
-
-    /** 12 and 13 of SHORT; the first byte is looked at before the second is read, and the sum before 11. */
-    private static void shortWrapper() {
-        dueFault("first byte, lowest bits", TestKit.row(121), 1, 12, 0, 0);
-        dueFault("first byte, highest bits", TestKit.row(136, 28), 1, 12, 0, 0);
-        dueFault("second byte, no multiple", TestKit.row(120, 157), 1, 12, 8, 0);
-        dueFault("second byte, bit 5", TestKit.row(120, 187), 1, 12, 8, 0);
-        dueFault("second byte, bit 5 alone wrong", TestKit.row(120, 32), 1, 12, 8, 0);
-        for (int i = 4; i < 8; i++) {
-            byte[] tape = TestKit.row(120, 156, 3, 0, 0, 0, 0, 1, 9);
-            tape[i] ^= 64;
-            dueFault("SUM A, byte " + i, tape, 1, 13, 32, 1);
+    @Says("10 there would be more than 65,536 bytes")
+    static void tooManyBytes() {
+        Bits full = sevens(1, 65536);
+        dueFault("a byte", new Bits().add(full).letter(7), 10, full.length(), 0);
+        dueFault("a stretch of 3", new Bits().add(full).letter(257).distance(0), 10, full.length(), 0);
+        RowPacker x = TestKit.loaded(new Bits().add(full).letter(256).row());
+        TestKit.due("65,536 by bytes", x.unpack(RowPacker.BARE), 65536);
+        for (int length : new int[] {3, 4, 258}) {
+            Bits room = sevens(1, 65536 - length);
+            Bits letter = length == 258 ? new Bits().letter(285) : new Bits().letter(254 + length);
+            TestKit.load(x, new Bits().add(room).add(letter).distance(0).letter(256).row());
+            TestKit.due("65,536 by a stretch of " + length, x.unpack(RowPacker.BARE), 65536);
+            room = sevens(1, 65537 - length);
+            dueFault("65,537 by a stretch of " + length, new Bits().add(room).add(letter).distance(0), 10,
+                room.length(), 0);
         }
-        dueFault("SUM A, the lowest first", TestKit.row(120, 156, 3, 0, 1, 0, 0, 0), 1, 13, 32, 1);
+        TestKit.load(x, sevens(0, 65530).letter(256).plain(1, 1, 2, 3, 4, 5, 6).row());
+        TestKit.due("65,536 by a PLAIN block", x.unpack(RowPacker.BARE), 65536);
+        Bits before = sevens(0, 65530).letter(256).head(1, 0).toByte();
+        dueFault("65,537 by a PLAIN block", new Bits().add(before).number(7, 16).number(65528, 16)
+            .bytes(1, 2, 3, 4, 5, 6, 7), 10, before.length(), 1);
+        TestKit.load(x, sevens(0, 65536).letter(256).plain(1).row());
+        TestKit.due("a PLAIN block without bytes behind 65,536", x.unpack(RowPacker.BARE), 65536);
     }
 
-    /** 12 and 13 of LONG's head. */
-    private static void longHead() {
-        dueFault("byte 0", TestKit.row(30), 2, 12, 0, 0);
-        dueFault("byte 1", TestKit.row(31, 138), 2, 12, 8, 0);
-        dueFault("byte 2", TestKit.row(31, 139, 7), 2, 12, 16, 0);
-        for (int bit = 5; bit < 8; bit++) {
-            dueFault("MARKS, bit " + bit, TestKit.row(31, 139, 8, 1 << bit), 2, 12, 24, 0);
-        }
-        dueFault("bytes of MARKS bit 2 missing", TestKit.row(31, 139, 8, 4, 0, 0, 0, 0, 0, 0, 1, 1, 0), 2, 1, 104, 0);
-        dueFault("no 0 behind a text", TestKit.row(31, 139, 8, 8, 0, 0, 0, 0, 0, 0, 1, 1), 2, 1, 96, 0);
-        dueFault("no 0 behind the second text", TestKit.row(31, 139, 8, 24, 0, 0, 0, 0, 0, 0, 1, 0, 1), 2, 1, 104, 0);
-        dueFault("sum of the head", TestKit.row(31, 139, 8, 2, 0, 0, 0, 0, 0, 0, 1, 2), 2, 13, 80, 0);
-        byte[] marked = TestKit.row(31, 139, 8, 10, 0, 0, 0, 0, 0, 0, 65, 0);
+    @Says("(of all MEMBERS together)")
+    static void tooManyBytesOfMembers() {
+        byte[] head = TestKit.row(31, 139, 8, 0, 0, 0, 0, 0, 0, 255);
         java.util.zip.CRC32 sum = new java.util.zip.CRC32();
-        sum.update(marked);
-        int due = (int) sum.getValue() & 65535;
-        byte[] good = TestKit.join(marked, new Bits().number(due, 16).row());
-        dueFault("the head's sum is good", good, 2, 1, 112, 0);
-        byte[] turned = TestKit.join(marked, TestKit.row(due >> 8, due & 255));
-        dueFault("the head's sum, the highest first", turned, 2, 13, 96, 0);
+        sum.update(TestKit.filled(65536, 7));
+        byte[] tail = new Bits().number((int) sum.getValue(), 32).number(65536, 32).row();
+        byte[] full = TestKit.join(head, sevens(1, 65536).letter(256).row(), tail);
+        byte[] more = TestKit.join(head, new Bits().head(1, 1).letter(5).letter(256).row());
+        TestKit.dueFault("a byte", TestKit.join(full, more), RowPacker.LONG, 10, 8 * full.length + 83, 1);
+        more = TestKit.join(head, new Bits().plain(1, 5).row());
+        TestKit.dueFault("a PLAIN block", TestKit.join(full, more), RowPacker.LONG, 10, 8 * full.length + 88, 1);
+        byte[] none = TestKit.join(head, TestKit.row(3, 0), new byte[8]);
+        RowPacker x = TestKit.loaded(TestKit.join(full, none));
+        TestKit.due("a member without bytes", x.unpack(RowPacker.LONG), 65536);
     }
 
-    /** 13 and 14 of LONG: the sum is looked at before the count is read. */
-    private static void longTail() {
-        byte[] head = TestKit.row(31, 139, 8, 0, 0, 0, 0, 0, 0, 255, 3, 0);
-        for (int i = 0; i < 4; i++) {
-            byte[] tail = new byte[8];
-            tail[i] = (byte) 128;
-            dueFault("SUM B, byte " + i, TestKit.join(head, tail), 2, 13, 96, 1);
-            dueFault("SUM B alone, byte " + i, TestKit.join(head, Arrays.copyOf(tail, 4)), 2, 13, 96, 1);
-            tail = new byte[8];
-            tail[4 + i] = 1;
-            dueFault("count, byte " + i, TestKit.join(head, tail), 2, 14, 128, 1);
-            tail[0] = 1;
-            dueFault("13 is before 14", TestKit.join(head, tail), 2, 13, 96, 1);
+    /** Where a byte more has no room, its symbol alone tells; a stretch's number and distance are read before. */
+    @Says("at the first bit of the symbol that is a byte or a length (its distance is read and looked at before)")
+    static void distanceIsLookedAtBefore() {
+        Bits full = sevens(1, 65536);
+        dueFault("a distance that never may come", new Bits().add(full).letter(257).distance(30), 8,
+            full.length() + 7, 0);
+        dueFullAndCut("its number missing", new Bits().letter(284).number(0, 4));
+        dueFullAndCut("its distance missing", new Bits().letter(257));
+        dueFullAndCut("its distance's number missing", new Bits().letter(257).distance(29).number(0, 12));
+        Bits far = sevens(1, 65534);
+        dueFault("32,768 is not too far", new Bits().add(far).letter(257).distance(29).number(8191, 13), 10,
+            far.length(), 0);
+    }
+
+    /** 65,536 bytes and the begin of a stretch; letters of 9 bits stand before until the TAPE ends with it. */
+    private static void dueFullAndCut(String what, Bits cut) {
+        for (int nines = 0; nines < 300; nines++) {
+            Bits all = new Bits().head(1, 1);
+            for (int i = 0; i < nines; i++) {
+                all.letter(200);
+            }
+            all.run(7, 65536 - nines).add(cut);
+            if (all.length() % 8 == 0) {
+                dueFault(what, all, 1, all.length(), 0);
+                return;
+            }
         }
+        TestKit.tellWrong(what + ": no such TAPE was found");
     }
 
-    private static byte[] memberOf(Bits packed, byte[] bytes) {
-        java.util.zip.CRC32 sum = new java.util.zip.CRC32();
-        sum.update(bytes);
-        byte[] tail = new Bits().number((int) sum.getValue(), 32).number(bytes.length, 32).row();
-        return TestKit.join(TestKit.row(31, 139, 8, 0, 0, 0, 0, 0, 0, 255), packed.row(), tail);
+    @Says("or of n (both numbers read before)")
+    static void bothNumbersAreReadBefore() {
+        Bits before = sevens(0, 65530).letter(256).head(1, 0).toByte();
+        dueFault("3 is before 10", new Bits().add(before).number(7, 16).number(7, 16), 3, before.length() + 16, 1);
+        dueFault("1 is before 10", new Bits().add(before).number(7, 16), 1, before.length() + 16, 1);
+        dueFault("10 is before 1", new Bits().add(before).number(7, 16).number(65528, 16), 10, before.length(), 1);
+        dueFault("room for 6 that are missing", new Bits().add(before).number(6, 16).number(65529, 16), 1,
+            before.length() + 32, 1);
+        dueFault("65,535 of them", new Bits().add(before).number(65535, 16).number(0, 16), 10, before.length(), 1);
     }
 
-    private static void severalMembers() {
-        byte[] one = memberOf(new Bits().plain(1, 1, 2, 3), TestKit.row(1, 2, 3));
-        int bits = 8 * one.length;
-        dueFault("0 behind a member", TestKit.join(one, TestKit.row(0)), 2, 12, bits, 1);
-        dueFault("a head cut short behind it", TestKit.join(one, TestKit.row(31, 139)), 2, 1, bits + 16, 1);
-        dueFault("a wrong head behind it", TestKit.join(one, TestKit.row(31, 139, 9)), 2, 12, bits + 16, 1);
-        byte[] back = memberOf(new Bits().head(1, 1).letter(257).distance(2).letter(256), TestKit.row(1, 2, 3));
-        dueFault("a distance into the member before", TestKit.join(one, back), 2, 9, bits + 80 + 10, 1);
-        byte[] all = TestKit.row(1, 2, 3, 1, 2, 3);
-        byte[] wrong = memberOf(new Bits().plain(1, 1, 2, 3), all);
-        dueFault("the sum of both", TestKit.join(one, wrong), 2, 13, bits + 80 + 64, 2);
-        byte[] count = one.clone();
-        count[one.length - 4] = 6;
-        dueFault("the count of both", TestKit.join(one, count), 2, 14, bits + 80 + 64 + 32, 2);
-        byte[] sevens = new byte[65536];
-        Arrays.fill(sevens, (byte) 7);
-        byte[] full = memberOf(sevens(1, 65536).letter(256), sevens);
-        byte[] more = memberOf(new Bits().head(1, 1).letter(5).letter(256), TestKit.row(5));
-        dueFault("65,537 of two members", TestKit.join(full, more), 2, 10, 8 * full.length + 83, 1);
+    @Says("the first one ends it; whatever is read is looked at as soon as it was read, of what is read together in the "
+        + "order told")
+    static void firstFault() {
+        dueFault("two faults, one behind the other", new Bits().head(0, 1).letter(286).letter(257).distance(30), 8, 3,
+            0);
+        dueFault("8 before 9", new Bits().head(1, 1).letter(257).distance(31), 8, 10, 0);
+        dueFault("2 before all", new Bits().head(1, 3).number(31, 5), 2, 1, 0);
+        TestKit.dueFault("12 before what is in it", TestKit.row(120, 157, 7), RowPacker.SHORT, 12, 8, 0);
+        TestKit.dueFault("2 before the sum", TestKit.row(120, 156, 7, 0, 0, 0, 0), RowPacker.SHORT, 2, 17, 0);
+        TestKit.dueFault("13 before 11", TestKit.row(120, 156, 3, 0, 0, 0, 0, 2, 9), RowPacker.SHORT, 13, 32, 1);
     }
 
-    /** Promise 16: those before the fault count, the one with the fault does not. */
-    private static void stretchesOfABlockWithAFault() {
-        Bits bits = new Bits().head(0, 1).letter(5).letter(257).distance(0).letter(256);
-        bits.head(1, 1).letter(285).distance(0).letter(285).distance(1).letter(285);
-        int place = bits.length();
-        RowPacker x = dueFault("a fault behind three", bits.distance(31).row(), 0, 8, place, 1);
-        TestKit.due("stretches", x.stretches(), 3);
-        for (int what = 0; what < 4; what++) {
-            TestKit.due("block(0, " + what + ")", x.block(0, what), new int[] {1, 0, 30, 4}[what]);
-        }
-        bits = sevens(1, 65534);
-        place = bits.length();
-        x = dueFault("one that has no room", bits.letter(257).distance(0).row(), 0, 10, place, 0);
-        TestKit.due("stretches before it", x.stretches(), 254);
-    }
-
-    private static void goodBehindAFault() {
-        RowPacker x = new RowPacker();
-        TestKit.load(x, new Bits().plain(0, 5).head(1, 3).row());
-        TestKit.due("fault first", x.unpack(0), RowPacker.NONE);
-        TestKit.due("a block before it", x.blocks(), 1);
+    @Says("The fault of the latest pack() or unpack(); 0 without one.")
+    static void faultOfTheLatest() {
+        RowPacker x = TestKit.loaded(new Bits().plain(0, 5).head(1, 3).row());
+        TestKit.due("before any", x.fault(), 0);
+        x.unpack(RowPacker.BARE);
+        TestKit.due("of unpack", x.fault(), 2);
         TestKit.load(x, TestKit.row(3, 0));
-        TestKit.due("fault is of the latest call", x.fault(), 2);
-        TestKit.due("then good", x.unpack(0), 0);
-        TestKit.due("no fault", x.fault(), 0);
-        TestKit.due("no place", x.place(), RowPacker.NONE);
-        TestKit.load(x, new Bits().head(1, 1).letter(1).letter(257).distance(0).letter(256).row());
-        x.unpack(0);
-        TestKit.due("a stretch", x.stretches(), 1);
-        TestKit.load(x, TestKit.row(7));
-        x.unpack(0);
-        TestKit.due("no stretch of an earlier call", x.stretches(), 0);
-        TestKit.due("no block of an earlier call", x.blocks(), 0);
+        x.turn();
+        TestKit.due("still, the TAPE being another", x.fault(), 2);
+        TestKit.load(x, TestKit.row(3, 0));
+        TestKit.due("a good one", x.unpack(RowPacker.BARE), 0);
+        TestKit.due("none behind a good one", x.fault(), 0);
+        TestKit.due("another", x.unpack(RowPacker.SHORT), RowPacker.NONE);
+        TestKit.due("of another", x.fault(), 12);
+        x.pack(RowPacker.BARE);
+        TestKit.due("none behind pack", x.fault(), 0);
+    }
+
+    @Says("The bit at which it is (for 11 to 14 the first one of that byte); NONE without one.")
+    static void placeOfTheLatest() {
+        RowPacker x = TestKit.loaded(TestKit.row(3, 0, 0));
+        TestKit.due("before any", x.place(), RowPacker.NONE);
+        x.unpack(RowPacker.BARE);
+        TestKit.due("of 11", x.place(), 16);
+        x.unpack(RowPacker.SHORT);
+        TestKit.due("of 12 at the first byte", x.place(), 0);
+        x.end(2);
+        TestKit.due("still, the TAPE being another", x.place(), 0);
+        x.unpack(RowPacker.BARE);
+        TestKit.due("none behind a good one", x.place(), RowPacker.NONE);
+        // A PLAIN block on the longest TAPE that has one byte fewer than it tells.
+        Bits numbers = new Bits().head(1, 0).toByte().number(32764, 16).number(65535 - 32764, 16);
+        TestKit.load(x, TestKit.join(numbers.row(), TestKit.filled(32763, 0)));
+        x.unpack(RowPacker.BARE);
+        TestKit.due("of 1 at the end of the longest TAPE", x.place(), 262144);
+        x.pack(RowPacker.BARE);
+        TestKit.due("none behind pack", x.place(), RowPacker.NONE);
     }
 }

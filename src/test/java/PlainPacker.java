@@ -7,6 +7,8 @@ import java.util.zip.CRC32;
 /** PACKING once more, word by word from the document and without any haste, to be compared with the class. */
 final class PlainPacker {
     final List<int[]> blocks = new ArrayList<>();
+    /** How many bits each block would take in each KIND that it may be of. */
+    final List<int[]> bitsOfKinds = new ArrayList<>();
     int stretches;
 
     private final byte[] tape;
@@ -19,6 +21,7 @@ final class PlainPacker {
 
     byte[] pack(int wrapper) {
         blocks.clear();
+        bitsOfKinds.clear();
         Bits all = new Bits();
         if (wrapper == 1) {
             all.bytes(120, 156);
@@ -87,6 +90,7 @@ final class PlainPacker {
         if (!some.isEmpty()) {
             kinds.add(made(some, last));
         }
+        bitsOfKinds.add(kinds.stream().mapToInt(Bits::length).toArray());
         int kind = 0;
         for (int k = 1; k < kinds.size(); k++) {
             if (kinds.get(k).length() < kinds.get(kind).length()) {

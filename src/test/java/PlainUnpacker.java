@@ -11,6 +11,12 @@ final class PlainUnpacker {
     int place = -1;
     int stretches;
     final List<int[]> blocks = new ArrayList<>();
+    /** Of each block its pieces: a byte by its number, a stretch as length@distance; nothing of a PLAIN one. */
+    final List<String> pieces = new ArrayList<>();
+    /** Of each block of KIND 2 what it told. */
+    final List<Told> told = new ArrayList<>();
+    /** The bits behind the last block up to the end of its byte. */
+    String bitsBehind = "";
     byte[] unpacked = new byte[0];
 
     private final byte[] tape;
@@ -18,6 +24,10 @@ final class PlainUnpacker {
     private int many;
     private int memberBegin;
     private int at;
+
+    /** What a block of KIND 2 told; a symbol above 15 stands as symbol + 100 * the number behind it. */
+    record Told(int numbers, int[] lengthsOfLengths, List<Integer> symbols, int[] letters, int[] distances) {
+    }
 
     private static final class Fault extends RuntimeException {
         private static final long serialVersionUID = 1L;
@@ -136,6 +146,7 @@ final class PlainUnpacker {
             check(kind != 3, 2, begin + 1);
             if (kind == 0) {
                 plain();
+                pieces.add("");
             } else if (kind == 1) {
                 symbols(codeOf(fixedLetters()), codeOf(fixedDistances()));
             } else {
@@ -143,7 +154,9 @@ final class PlainUnpacker {
             }
             blocks.add(new int[] {kind, begin, at - begin, many - before});
         }
+        bitsBehind = "";
         while (at % 8 != 0) {
+            bitsBehind += tape[at / 8] >> at % 8 & 1;
             at++;
         }
     }
@@ -213,13 +226,14 @@ final class PlainUnpacker {
         check(letters <= 286, 4, at - 5);
         int distances = 1 + number(5);
         check(distances <= 30, 4, at - 5);
-        int told = 4 + number(4);
+        int numbers = 4 + number(4);
         int[] lengthsOfLengths = new int[19];
-        for (int i = 0; i < told; i++) {
+        for (int i = 0; i < numbers; i++) {
             lengthsOfLengths[Bits.ORDER[i]] = number(3);
         }
         check(isFull(lengthsOfLengths), 5, at);
-        int[] all = lengths(codeOf(lengthsOfLengths), letters + distances);
+        List<Integer> symbols = new ArrayList<>();
+        int[] all = lengths(codeOf(lengthsOfLengths), letters + distances, symbols);
         int[] ofLetters = java.util.Arrays.copyOf(all, letters);
         int[] ofDistances = java.util.Arrays.copyOfRange(all, letters, all.length);
         check(isFull(ofLetters) && ofLetters[256] > 0, 5, at);
@@ -230,21 +244,25 @@ final class PlainUnpacker {
             sum += length;
         }
         check(isFull(ofDistances) || coded == 0 || coded == 1 && sum == 1, 5, at);
+        told.add(new Told(numbers, lengthsOfLengths, symbols, ofLetters, ofDistances));
         symbols(codeOf(ofLetters), codeOf(ofDistances));
     }
 
-    private int[] lengths(Map<String, Integer> code, int due) {
+    private int[] lengths(Map<String, Integer> code, int due, List<Integer> symbols) {
         List<Integer> all = new ArrayList<>();
         while (all.size() < due) {
             int begin = at;
             int symbol = symbol(code);
             if (symbol < 16) {
                 all.add(symbol);
+                symbols.add(symbol);
                 continue;
             }
             check(symbol > 16 || !all.isEmpty(), 6, begin);
             int value = symbol == 16 ? all.get(all.size() - 1) : 0;
-            int times = symbol == 16 ? 3 + number(2) : symbol == 17 ? 3 + number(3) : 11 + number(7);
+            int more = number(symbol == 16 ? 2 : symbol == 17 ? 3 : 7);
+            int times = more + (symbol == 18 ? 11 : 3);
+            symbols.add(symbol + 100 * more);
             check(all.size() + times <= due, 7, begin);
             for (int i = 0; i < times; i++) {
                 all.add(value);
@@ -254,15 +272,18 @@ final class PlainUnpacker {
     }
 
     private void symbols(Map<String, Integer> letters, Map<String, Integer> distances) {
+        StringBuilder text = new StringBuilder();
         while (true) {
             int begin = at;
             int letter = symbol(letters);
             if (letter == 256) {
+                pieces.add(text.toString().trim());
                 return;
             }
             if (letter < 256) {
                 check(many < 65536, 10, begin);
                 write(letter);
+                text.append(letter).append(' ');
                 continue;
             }
             int i = letter - 257;
@@ -278,6 +299,7 @@ final class PlainUnpacker {
                 write(out[many - distance]);
             }
             stretches++;
+            text.append(length).append('@').append(distance).append(' ');
         }
     }
 }

@@ -2,6 +2,7 @@
 final class TestKit {
     private static final int MOST_PRINTED = 40;
     private static int wrong;
+    private static String running = "";
 
     private TestKit() {
     }
@@ -9,6 +10,11 @@ final class TestKit {
     /** A call whose exception is looked at. */
     interface Call {
         void go();
+    }
+
+    /** The name of the test that runs now: it stands before each line that is printed. */
+    static void begin(String name) {
+        running = name + ": ";
     }
 
     static void due(String what, long got, long want) {
@@ -49,7 +55,7 @@ final class TestKit {
     static void tellWrong(String line) {
         wrong++;
         if (wrong <= MOST_PRINTED) {
-            System.out.println(line);
+            System.out.println(running + line);
         }
     }
 
@@ -60,11 +66,30 @@ final class TestKit {
         }
     }
 
+    /** A TAPE that unpacks to a fault at this bit, so many blocks being read to their end before. */
+    static RowPacker dueFault(String what, byte[] tape, int wrapper, int fault, int place, int blocks) {
+        RowPacker x = loaded(tape);
+        due(what + ": unpack", x.unpack(wrapper), RowPacker.NONE);
+        due(what + ": fault", x.fault(), fault);
+        due(what + ": place", x.place(), place);
+        due(what + ": blocks", x.blocks(), blocks);
+        due(what + ": size", x.size(), 0);
+        dueThrow(what + ": out(0)", IndexOutOfBoundsException.class, () -> x.out(0));
+        dueThrow(what + ": block", IndexOutOfBoundsException.class, () -> x.block(blocks, 0));
+        return x;
+    }
+
     static byte[] row(int... values) {
         byte[] row = new byte[values.length];
         for (int i = 0; i < row.length; i++) {
             row[i] = (byte) values[i];
         }
+        return row;
+    }
+
+    static byte[] filled(int many, int value) {
+        byte[] row = new byte[many];
+        java.util.Arrays.fill(row, (byte) value);
         return row;
     }
 
@@ -116,6 +141,21 @@ final class TestKit {
         return number;
     }
 
+    /** The TAPE, byte by byte, as change(i, 0) tells it. */
+    static byte[] tapeOf(RowPacker x) {
+        byte[] bytes = new byte[tapeLength(x)];
+        for (int i = 0; i < bytes.length; i++) {
+            bytes[i] = (byte) x.change(i, 0);
+        }
+        return bytes;
+    }
+
+    static RowPacker loaded(byte[] tape) {
+        RowPacker x = new RowPacker();
+        load(x, tape);
+        return x;
+    }
+
     static byte[] outOf(RowPacker x) {
         byte[] bytes = new byte[x.size()];
         for (int i = 0; i < bytes.length; i++) {
@@ -129,9 +169,7 @@ final class TestKit {
         text.append(tapeLength(x)).append(' ').append(x.sum(0)).append(' ').append(x.sum(1)).append(' ');
         text.append(x.fault()).append(' ').append(x.place()).append(' ').append(x.size()).append(' ');
         text.append(x.blocks()).append(' ').append(x.stretches()).append(' ');
-        for (int i = 0; i < x.size() && i < 50; i++) {
-            text.append(x.out(i)).append(',');
-        }
+        text.append(java.util.Arrays.hashCode(outOf(x))).append(' ');
         for (int i = 0; i < x.blocks() && i < 64; i++) {
             for (int what = 0; what < 4; what++) {
                 text.append(x.block(i, what)).append(';');
