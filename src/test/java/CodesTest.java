@@ -1,5 +1,10 @@
+import java.util.ArrayList;
 import java.util.Arrays;
+import java.util.Collections;
+import java.util.HashSet;
 import java.util.List;
+import java.util.Random;
+import java.util.Set;
 
 /** Promise 6: the edges of KIND 2 as it is packed: its codes by weights, and how they are told. */
 public final class CodesTest {
@@ -60,18 +65,25 @@ public final class CodesTest {
     /** Two blocks: what came in the first one has no code in the second one. */
     @Says("WEIGHTS of letters and distances are how often they come in the block (256 once).")
     static void weightsOfTheBlock() {
-        byte[] first = PiecesTest.withoutStretches(1024, 61, 40);
+        // 1,022 bytes, a byte 1 and a stretch of it: 1,024 pieces.
+        byte[] first = TestKit.join(PiecesTest.withoutStretches(1022, 61, 40), TestKit.filled(259, 1));
         byte[] tape = TestKit.join(first, evenly(ranges(200, 207)));
         List<PlainUnpacker.Told> both = told(tape);
         TestKit.due("blocks", both.size(), 2);
         int[] letters = both.get(1).letters();
+        TestKit.due("letters of the second block", letters.length, 257);
         for (int letter = 0; letter < 257; letter++) {
             boolean comes = letter >= 200 && letter < 207 || letter == 256;
             TestKit.due("length of " + letter + " in the second block", letters[letter], comes ? 3 : 0);
         }
+        dueLengths("lengths of distances in the first block", both.get(0).distances(), 1);
+        dueLengths("lengths of distances in the second block", both.get(1).distances(), 0);
         letters = both.get(0).letters();
         TestKit.due("length of 200 in the first block", letters[200], 0);
-        TestKit.due("length of 256, which comes once, in the first block", letters[256], 6);
+        // 61 letters of 5 or 6 bits; 1, 256 and 285, which come once, share what one more of 6 bits would have.
+        TestKit.due("length of 1 in the first block", letters[1], 8);
+        TestKit.due("length of 256 in the first block", letters[256], 8);
+        TestKit.due("length of 285 in the first block", letters[285], 7);
     }
 
     @Says("Of letters (15 bits at most) there are as many as up to the last one with a code, distances likewise")
@@ -128,6 +140,59 @@ public final class CodesTest {
             }
             TestKit.due("length of 256 with " + many, letters[256], shorter > many ? bits : bits + 1);
         }
+    }
+
+    private static int threeAt(byte[] row, int i) {
+        return (row[i] & 255) << 16 | (row[i + 1] & 255) << 8 | row[i + 2] & 255;
+    }
+
+    /** Behind a first block without stretches one of stretches alone, of given lengths, each so many times. */
+    private static byte[] ofStretches(int[] lengths, int[] times) {
+        List<Integer> all = new ArrayList<>();
+        for (int i = 0; i < lengths.length; i++) {
+            all.addAll(Collections.nCopies(times[i], lengths[i]));
+        }
+        Random random = new Random(0);
+        Collections.shuffle(all, random);
+        byte[] row = Arrays.copyOf(PiecesTest.withoutStretches(1024, 241, 10), 32768);
+        Set<Integer> seen = new HashSet<>();
+        int entered = 0;
+        int many = 1024;
+        for (int length : all) {
+            while (entered + 2 < many) {
+                seen.add(threeAt(row, entered));
+                entered++;
+            }
+            // Three bytes that go over its begin must be new, or the stretch before it would go on.
+            boolean goesOn = true;
+            for (int i = 0; goesOn && i < 1000; i++) {
+                System.arraycopy(row, many - length - random.nextInt(1000), row, many, length);
+                goesOn = seen.contains(threeAt(row, many - 2)) || seen.contains(threeAt(row, many - 1));
+            }
+            many += length;
+        }
+        return Arrays.copyOf(row, many);
+    }
+
+    /**
+     * Weights that are Fibonacci's numbers, from 377 down to 1 and 1, 256 among them: lengths 1, 2, 3, .. 13, 13. A
+     * block has 1,025 weights at most, so that more than 14 bits never come, and the bound of 15 is never met.
+     */
+    @Says("Of row m the first 2 n - 2 things are taken")
+    static void lengthsOfThirteenBits() {
+        byte[] tape = ofStretches(new int[] {3, 4, 5, 6, 7, 8, 9, 10, 11, 13, 15, 17, 19},
+            new int[] {377, 233, 144, 89, 55, 34, 21, 13, 8, 5, 3, 2, 1});
+        RowPacker x = TestKit.loaded(tape);
+        x.pack(RowPacker.BARE);
+        TestKit.due("blocks", x.blocks(), 2);
+        TestKit.due("KIND of the second one", x.block(1, 0), 2);
+        TestKit.due("stretches", x.stretches(), 985);
+        PlainUnpacker read = new PlainUnpacker(TestKit.outOf(x), RowPacker.BARE);
+        TestKit.dueRow("read again", read.unpacked, tape);
+        int[] letters = read.told.get(read.told.size() - 1).letters();
+        dueLengths("lengths from 256 on", Arrays.copyOfRange(letters, 256, letters.length),
+            13, 1, 2, 3, 4, 5, 6, 7, 8, 9, 10, 11, 12, 13);
+        TestKit.dueRow("as the slow packer packs it", TestKit.outOf(x), new PlainPacker(tape).pack(RowPacker.BARE));
     }
 
     /** Of letters that come as often as one another the first ones get the longer codes. */

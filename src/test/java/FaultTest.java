@@ -417,20 +417,37 @@ public final class FaultTest {
         TestKit.due("a PLAIN block without bytes behind 65,536", x.unpack(RowPacker.BARE), 65536);
     }
 
+    private static final byte[] HEAD = TestKit.row(31, 139, 8, 0, 0, 0, 0, 0, 0, 255);
+
+    /** A whole member of so many bytes 7. */
+    private static byte[] memberOfSevens(int many) {
+        java.util.zip.CRC32 sum = new java.util.zip.CRC32();
+        sum.update(TestKit.filled(many, 7));
+        byte[] tail = new Bits().number((int) sum.getValue(), 32).number(many, 32).row();
+        return TestKit.join(HEAD, sevens(1, many).letter(256).row(), tail);
+    }
+
+    private static void dueBehind(String what, byte[] member, Bits packed, int fault, int place) {
+        byte[] tape = TestKit.join(member, HEAD, packed.row());
+        TestKit.dueFault(what, tape, RowPacker.LONG, fault, 8 * member.length + 80 + place, 1);
+    }
+
     @Says("(of all MEMBERS together)")
     static void tooManyBytesOfMembers() {
-        byte[] head = TestKit.row(31, 139, 8, 0, 0, 0, 0, 0, 0, 255);
-        java.util.zip.CRC32 sum = new java.util.zip.CRC32();
-        sum.update(TestKit.filled(65536, 7));
-        byte[] tail = new Bits().number((int) sum.getValue(), 32).number(65536, 32).row();
-        byte[] full = TestKit.join(head, sevens(1, 65536).letter(256).row(), tail);
-        byte[] more = TestKit.join(head, new Bits().head(1, 1).letter(5).letter(256).row());
-        TestKit.dueFault("a byte", TestKit.join(full, more), RowPacker.LONG, 10, 8 * full.length + 83, 1);
-        more = TestKit.join(head, new Bits().plain(1, 5).row());
-        TestKit.dueFault("a PLAIN block", TestKit.join(full, more), RowPacker.LONG, 10, 8 * full.length + 88, 1);
-        byte[] none = TestKit.join(head, TestKit.row(3, 0), new byte[8]);
+        byte[] full = memberOfSevens(65536);
+        dueBehind("a byte", full, new Bits().head(1, 1).letter(5).letter(256), 10, 3);
+        dueBehind("a PLAIN block", full, new Bits().plain(1, 5), 10, 8);
+        byte[] most = memberOfSevens(65530);
+        dueBehind("a stretch", most, new Bits().head(1, 1).letter(5).letter(260).distance(0).letter(256), 10, 11);
+        dueBehind("9 is before 10", most, new Bits().head(1, 1).letter(5).letter(285).distance(1), 9, 19);
+        dueBehind("9 is before 10, at the begin", full, new Bits().head(1, 1).letter(257).distance(0), 9, 10);
+        byte[] none = TestKit.join(HEAD, TestKit.row(3, 0), new byte[8]);
         RowPacker x = TestKit.loaded(TestKit.join(full, none));
         TestKit.due("a member without bytes", x.unpack(RowPacker.LONG), 65536);
+        TestKit.load(x, TestKit.join(most, memberOfSevens(6)));
+        TestKit.due("65,530 and 6", x.unpack(RowPacker.LONG), 65536);
+        TestKit.load(x, TestKit.join(memberOfSevens(32768), memberOfSevens(32768)));
+        TestKit.due("32,768 and 32,768", x.unpack(RowPacker.LONG), 65536);
     }
 
     /** Where a byte more has no room, its symbol alone tells; a stretch's number and distance are read before. */
