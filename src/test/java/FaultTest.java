@@ -199,22 +199,15 @@ public final class FaultTest {
         dueMade("three letters of 1 bit", made(258, 1, 1, REST_0, REST_1, 1, 1, 0));
         dueMade("256 alone, of 1 bit", made(257, 1, 0, REST_0, REST_1, 1, 0));
         dueMade("letters of 1, 1 and 2 bits", made(258, 1, 1, REST_0, REST_1, 1, 2, 0));
-        dueMade("letters of 15 bits alone", ofLetters(fifteens(2, 15)));
-        int[] left = fifteens(14, 15);
-        dueMade("a 32,768th is left", ofLetters(left));
-        left[14] = 15;
-        left[15] = 15;
-        dueMade("a 32,768th too much", ofLetters(left));
-    }
-
-    /** Letters 0 and on of 1, 2, 3, .. bits, so many of them, and 256 of so many bits. */
-    private static int[] fifteens(int many, int end) {
         int[] lengths = new int[257];
-        for (int i = 0; i < many; i++) {
-            lengths[i] = many == 2 ? 15 : i + 1;
+        for (int letter = 0; letter < 14; letter++) {
+            lengths[letter] = letter + 1;
         }
-        lengths[256] = end;
-        return lengths;
+        lengths[256] = 15;
+        dueMade("a 32,768th is left", ofLetters(lengths));
+        lengths[14] = 15;
+        lengths[15] = 15;
+        dueMade("a 32,768th too much", ofLetters(lengths));
     }
 
     /** A block whose 257 letters have these lengths and its distance none. */
@@ -356,7 +349,7 @@ public final class FaultTest {
         + "read.")
     static void tooFar() {
         dueFault("before the first byte", new Bits().head(1, 1).letter(257).distance(0), 9, 10, 0);
-        dueAtTheEndOfAll("two of one byte", new Bits().head(1, 1).letter(5).letter(257).distance(1), 18);
+        dueFault("two of one byte", new Bits().head(1, 1).letter(5).letter(257).distance(1), 9, 18, 0);
         for (int many : new int[] {1, 2, 4, 5, 6, 7, 8, 12, 13, 256, 257}) {
             Bits bytes = new Bits().head(1, 1);
             for (int i = 0; i < many; i++) {
@@ -370,12 +363,6 @@ public final class FaultTest {
         Bits blocks = new Bits().plain(0, 1, 2, 3).head(1, 1).letter(257).distance(3);
         dueFault("four of three bytes of a PLAIN block", blocks, 9, 64 + 10, 1);
         dueEarlyEnd("its number missing", new Bits().head(1, 1).letter(257).distance(29).number(8191, 12));
-    }
-
-    private static void dueAtTheEndOfAll(String what, Bits bits, int place) {
-        dueFault(what, bits, 9, place, 0);
-        Bits byteMore = new Bits().head(0, 1).letter(256).add(bits);
-        dueFault(what + ", behind an empty block", byteMore, 9, place + 10, 1);
     }
 
     /** A distance of KIND 1 behind what stands there. */
