@@ -215,7 +215,8 @@ public final class CodesTest {
     }
 
     /** Codes that grow longer with weights that double: no two lengths but the last are the same. */
-    @Says("Of row m the first 2 n - 2 things are taken: the length of a symbol is how often it is in them.")
+    @Says({"Of row m the first 2 n - 2 things are taken: the length of a symbol is how often it is in them.",
+        "LENGTHS' weights are how often symbols come there"})
     static void lengthsOfUnlikeWeights() {
         // 17: 2, 18: 3, 0: 4 and 3: 8 times (lengthsOfGaps has the row).
         int[] lengths = told(evenly(new int[] {0, 2, 5, 9, 20, 32, 171})).get(0).lengthsOfLengths();

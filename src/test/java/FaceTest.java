@@ -1,7 +1,10 @@
+import java.io.IOException;
 import java.lang.reflect.Constructor;
 import java.lang.reflect.Field;
 import java.lang.reflect.Method;
 import java.lang.reflect.Modifier;
+import java.nio.file.Files;
+import java.nio.file.Path;
 import java.util.ArrayList;
 import java.util.List;
 import java.util.TreeSet;
@@ -11,6 +14,7 @@ public final class FaceTest {
     private static final List<String> WRONG = new ArrayList<>();
 
     public static void main(String[] args) throws Exception {
+        linesOfTheDocument();
         constants();
         members();
         nestedClasses();
@@ -23,6 +27,21 @@ public final class FaceTest {
     private static void due(String what, Object got, Object want) {
         if (!want.equals(got)) {
             WRONG.add(what + " is " + got + ", due is " + want);
+        }
+    }
+
+    /** Each line of the document's face stands in the class, with a body where the document has none. */
+    private static void linesOfTheDocument() throws IOException {
+        String document = Files.readString(Path.of("../shared/DOC.md"));
+        String source = Files.readString(Path.of("src/main/java/RowPacker.java"));
+        int heading = document.indexOf("## The public face");
+        int begin = document.indexOf("{", heading) + 1;
+        String[] lines = document.substring(begin, document.indexOf("\n}", begin)).strip().split("\n");
+        due("lines of the document's face", lines.length, 18);
+        for (String line : lines) {
+            String told = line.strip();
+            String want = told.startsWith("public static") ? told : told.replace(";", " {");
+            due("the class has: " + want, source.contains(want), true);
         }
     }
 

@@ -449,4 +449,21 @@ public final class TapeTest {
         TestKit.due("SUM B of a byte 255", TestKit.loaded(TestKit.row(255)).sum(1), 0xFF000000L);
         TestKit.due("SUM B of four bytes 255", TestKit.loaded(TestKit.filled(4, 255)).sum(1), 0xFFFFFFFFL);
     }
+
+    /** The steps as the document tells them, on numbers that never are below 0. */
+    @Says("each byte is put upon the lowest eight (where bits differ is 1), and eight times the bits go down by one, "
+        + "and if the one that fell out was 1, 3988292384 is put upon them")
+    static void sumBStepByStep() {
+        for (int value = 0; value < 256; value++) {
+            int[] three = {value, 255 - value, value * 7 & 255};
+            long bits = 4294967295L;
+            for (int one : three) {
+                bits ^= one;
+                for (int step = 0; step < 8; step++) {
+                    bits = bits % 2 == 1 ? bits / 2 ^ 3988292384L : bits / 2;
+                }
+            }
+            TestKit.due("SUM B of three with " + value, TestKit.loaded(TestKit.row(three)).sum(1), 4294967295L - bits);
+        }
+    }
 }
